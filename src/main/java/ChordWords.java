@@ -49,7 +49,7 @@ public final class ChordWords {
 
     public ChordWords() {
         tape = new Tape();
-        reader = new Reader(tape.bytes);
+        reader = new Reader();
         undos = new Undos();
         images = new int[IMAGES];
         Arrays.fill(images, NONE);
@@ -84,7 +84,7 @@ public final class ChordWords {
         if (!tape.holds(n)) {
             return refuse(BAD_NUMBER);
         }
-        reader.read(n);
+        reader.read(tape.bytes, n);
         tape.length = 0;
         loaded = true;
         if (reader.kind != 0) {
@@ -1186,7 +1186,7 @@ public final class ChordWords {
         }
 
         static int placeOf(int[] row, int length, int letter, int from) {
-            for (int i = Math.max(from, 0); i < length && i < row.length; i++) {
+            for (int i = from < 0 ? 0 : from; i < length && i < row.length; i++) {
                 if (row[i] == letter) {
                     return i;
                 }
@@ -1359,8 +1359,8 @@ public final class ChordWords {
          * opened first; of two that don't, the other one. 'closing' holds it, four bits a point, the next one lowest.
          */
         private static void extend(Models m, int place, int waiting, int open, int closing, long word) {
-            if (place >= m.letters || place >= m.row.length) {
-                m.keepIfLeast(word);
+            if (waiting == 0 || place >= m.row.length) {
+                m.finish(place, closing, word);
                 return;
             }
             int next = open == 0 ? NONE : closing & 15;
@@ -1406,14 +1406,25 @@ public final class ChordWords {
             return point < row[1] && (before == 0 || place == letters - 1);
         }
 
-        private void keepIfLeast(long word) {
+        // with all points open or closed, the rest of the letters stand fast
+        private void finish(int place, int closing, long word) {
+            long whole = word;
+            int rest = closing;
+            for (int i = place; i < letters && i < row.length; i++) {
+                row[i] = rest & 15;
+                whole = whole << 4 | row[i];
+                rest >>= 4;
+            }
+            if (isLeast()) {
+                keep(whole);
+            }
+        }
+
+        private boolean isLeast() {
             int second = Rows.placeOf(row, letters, 0, 1);
-            boolean least = !Rows.readsLess(row, letters, 0, -1)
+            return !Rows.readsLess(row, letters, 0, -1)
                     && !Rows.readsLess(row, letters, second, 1)
                     && !Rows.readsLess(row, letters, second, -1);
-            if (least) {
-                keep(word);
-            }
         }
 
         private void keep(long word) {
@@ -1456,7 +1467,7 @@ public final class ChordWords {
             return NONE;
         }
 
-        // two gaps are far enough apart if the letters that stand once ahead of them differ by just the set
+        // a new point fits in two gaps if the sets that stand once on the way to either differ by just those near it
         boolean letsIn(int i, int set) {
             long word = wordAt(i);
             int odd = 0;
@@ -1491,9 +1502,9 @@ public final class ChordWords {
 
     /** All networks that come of one by turning, in the order of the fewest turns. */
     private static final class Turnings {
-        // a network of seven points has at most three to the seventh: fewer come
-        private static final int MOST = 2187;
-        private static final int SLOTS = 4096;
+        // the largest class there is with seven points
+        private static final int MOST = 1096;
+        private static final int SLOTS = 2048;
 
         int count;
         private int points = NONE;
@@ -1615,19 +1626,16 @@ public final class ChordWords {
         int lines;
         int kind;
         int place = NONE;
-        private final int[] text;
+        private int[] text = new int[0];
         private int length;
         private int token;
         private int start;
         private int end;
         private final int[] word = new int[MOST_LETTERS];
 
-        Reader(int[] bytes) {
+        void read(int[] bytes, int many) {
             text = bytes;
-        }
-
-        void read(int bytes) {
-            length = Math.min(bytes, text.length);
+            length = Math.min(many, bytes.length);
             points = 0;
             lines = 0;
             kind = 0;
@@ -1665,18 +1673,18 @@ public final class ChordWords {
                 start++;
             }
             end = start + 1;
-            int first = byteAt(start);
+            int sign = byteAt(start);
             if (start >= length) {
                 token = END;
                 end = start;
-            } else if (isSmall(first)) {
+            } else if (isSmall(sign)) {
                 token = WORD;
                 while (end < length && isSmall(byteAt(end))) {
                     end++;
                 }
-            } else if (isDigit(first) && !isDigit(byteAt(end))) {
+            } else if (isDigit(sign) && !isDigit(byteAt(end))) {
                 token = DIGIT;
-            } else if (first == ';') {
+            } else if (sign == ';') {
                 token = SIGN;
             } else {
                 fail(NO_TOKEN);
