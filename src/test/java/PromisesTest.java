@@ -230,6 +230,11 @@ public final class PromisesTest {
         bad("point 1;", 2, 0);
         bad("pointss 1;", 2, 0);
         bad("turns 1;", 2, 0);
+        for (String head : new String[] {"points 2;", "cross abab;", "line 0 1;", "turn 0;", "swing 0 1;"}) {
+            for (int i = 0; i < head.indexOf(' '); i++) {
+                bad(head.substring(0, i) + 'y' + head.substring(i + 1), 2, 0);
+            }
+        }
         bad("points", 2, 6);
         bad("points  ", 2, 8);
         bad("points ;", 2, 7);
@@ -677,6 +682,11 @@ public final class PromisesTest {
         duePieces("two paths", of("points 7;line 0 2;line 2 4;line 4 6;line 1 3;line 3 5;"),
                 new int[][] {{2, 3, 1}, {2, 3, 0}, {2, 3, 1}}, new int[][] {{0, 2, 10}, {1, 3, 5}, {4, 6, 10}},
                 new int[][] {{2, 5, 2}, {2, 5, 2}, {6, 1, 1}});
+        // a ring of three, each with an end: what is left at last is three marks
+        duePieces("three ends", of("points 6;line 0 2;line 0 4;line 2 4;line 0 1;line 2 3;line 4 5;"),
+                new int[][] {{2, 3, 1}, {2, 3, 1}, {2, 3, 1}, {3, 3, 3}},
+                new int[][] {{0, 1, 10}, {2, 3, 11}, {4, 5, 12}, {10, 11, 12}},
+                new int[][] {{6, 1, 1}, {6, 1, 1}, {6, 1, 1}, {6, 5, 3}});
         duePieces("a ring of five with an end", of(RING + "points 1;line 5 2;"), new int[][] {{4, 5, 1}, {2, 3, 1}},
                 new int[][] {{0, 1, 3, 4, 10}, {2, 5, 10}}, new int[][] {{10, 17, 24, 5, 6}, {6, 1, 1}});
     }
@@ -1129,6 +1139,10 @@ public final class PromisesTest {
         dueFamily("seven joined", complete(7), 6, 21, 7, 63);
         dueFamily("three joined", complete(3), 2, 3, 3, 9);
         dueFamily("one line and two points", of(ONE_OFF), 1, 1, 1, 1);
+        ChordWords largest = of("points 7;line 1 2;line 1 3;line 2 3;line 0 4;line 3 4;line 0 5;line 2 5;line 0 6;"
+                + "line 1 6;");
+        dueMany("the largest class", largest, 7, 9, 1, 1, 0, 1, 0, 1096);
+        dueFamily("the largest class", largest, 9, 15, 8, 13320);
         ChordWords x = of(PATH);
         x.family(0);
         CHECK.due("41: it stays as it was", x.many(1), 3);
