@@ -758,6 +758,10 @@ public final class ChordWords {
             return (set >> point & 1) != 0;
         }
 
+        static boolean isLeastOf(int set, int point) {
+            return (set & everyPoint(point)) == 0;
+        }
+
         static int everyPoint(int points) {
             return (1 << points) - 1;
         }
@@ -843,7 +847,7 @@ public final class ChordWords {
         static int joinedSets(int points, int lines) {
             int sets = 0;
             for (int point = 0; point < points; point++) {
-                if (Integer.numberOfTrailingZeros(joinedTo(points, lines, point)) == point) {
+                if (isLeastOf(joinedTo(points, lines, point), point)) {
                     sets++;
                 }
             }
@@ -860,9 +864,9 @@ public final class ChordWords {
             int rank = 0;
             for (int point = 0; point < points; point++) {
                 if (isIn(set, point)) {
-                    int rest = reduced(basis, nearTo(points, lines, point) & ~set);
-                    if (rest != 0) {
-                        basis |= (long) rest << 8 * (31 - Integer.numberOfLeadingZeros(rest));
+                    long more = withRow(basis, nearTo(points, lines, point) & ~set);
+                    if (more != basis) {
+                        basis = more;
                         rank++;
                     }
                 }
@@ -870,14 +874,18 @@ public final class ChordWords {
             return rank;
         }
 
-        private static int reduced(long basis, int bits) {
+        private static long withRow(long basis, int bits) {
             int rest = bits;
             for (int bit = MOST_POINTS - 1; bit >= 0; bit--) {
                 if ((rest >> bit & 1) != 0) {
-                    rest ^= (int) (basis >> 8 * bit & 127);
+                    int known = (int) (basis >> 8 * bit & 127);
+                    if (known == 0) {
+                        return basis | (long) rest << 8 * bit;
+                    }
+                    rest ^= known;
                 }
             }
-            return rest;
+            return basis;
         }
 
         static int likeCouples(int points, int lines, boolean tied) {
@@ -1027,7 +1035,7 @@ public final class ChordWords {
             marks = 0;
             for (int point = 0; point < points; point++) {
                 int set = Net.joinedTo(points, lines, point);
-                if (Integer.numberOfTrailingZeros(set) == point) {
+                if (Net.isLeastOf(set, point)) {
                     begin(points, lines, set);
                 }
             }

@@ -43,7 +43,7 @@ public final class LanguageTest {
             "java.util.Arrays", Set.of("copyOf", "copyOfRange", "fill"),
             "java.lang.System", Set.of("arraycopy"),
             "java.lang.Math", Set.of("min", "max", "abs", "floorMod", "floorDiv"),
-            "java.lang.Integer", Set.of("bitCount", "numberOfTrailingZeros", "numberOfLeadingZeros"),
+            "java.lang.Integer", Set.of("bitCount", "min", "max", "abs", "compare"),
             "java.lang.String", Set.of("length", "charAt"));
 
     private final Set<String> face = new TreeSet<>(Arrays.asList(FACE.split(" ")));
