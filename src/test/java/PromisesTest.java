@@ -925,6 +925,7 @@ public final class PromisesTest {
         dueCross("aabb", 0, 1, 0, 0);
         dueCross("zyzy", 25, 24, 1, 0);
         dueCross("zyzy", 25, 26, -1, 1);
+        dueCross("zyzy", 26, 25, -1, 1);
         dueCross("zyzy", -1, 25, -1, 1);
         dueCross("zyzy", 25, 25, -1, 4);
         dueCross("zyzy", 23, 25, -1, 2);
@@ -1250,6 +1251,7 @@ public final class PromisesTest {
         for (int what = 0; what < 4; what++) {
             due("45: sample(2, 2, 1, " + what + ")", x, x.sample(2, 2, 1, what), want[what], 0);
         }
+        due("45: the least seed", x, x.sample(0, 5, 1, 0), drawnLines(0, 5), 0);
         due("45: one row is as shuffled", x, x.sample(77, 7, 1, 0), drawnLines(77, 7), 0);
         int lines = 0;
         int joined = 0;
