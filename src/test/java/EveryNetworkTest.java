@@ -139,7 +139,7 @@ public final class EveryNetworkTest {
         }
     }
 
-    /** Every network of five points has a model; of six joined by a hub, the first that has none. */
+    /** Every network of five points has a model. */
     private static void everyFive() {
         for (int lines = 0; lines < 1 << 10; lines++) {
             ChordWords x = new ChordWords();
