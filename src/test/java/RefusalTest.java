@@ -1,4 +1,3 @@
-import java.util.ArrayList;
 import java.util.LinkedHashMap;
 import java.util.List;
 import java.util.Map;
@@ -181,38 +180,10 @@ public final class RefusalTest {
         CHECK.due(told, calls.get(name).applyAsLong(asked), -1);
         CHECK.due(told + " leaves the status", asked.status(), due.get(name));
         CHECK.due(told + ": the other's status", left.status(), 0);
-        List<Long> is = whole(asked);
-        List<Long> was = whole(left);
+        List<Long> is = State.whole(asked);
+        List<Long> was = State.whole(left);
         for (int i = 0; i < was.size(); i++) {
             CHECK.due(told + " changes what is asked as " + i, is.get(i), was.get(i));
-        }
-    }
-
-    /** All that can be told of an object, the tape and the acts used up. */
-    private static List<Long> whole(ChordWords x) {
-        List<Long> all = new ArrayList<>();
-        all.add((long) x.fault(0));
-        all.add((long) x.fault(1));
-        for (int k = 0; k < 3; k++) {
-            all.add((long) x.like(k));
-        }
-        network(x, all);
-        all.add((long) x.feed(1, 2, 3, 4, 5));
-        all.add((long) x.cross(4, 0, 1));
-        all.add((long) x.feed(1, 2, 3, 4, 5));
-        for (int i = 0; i < 13; i++) {
-            all.add((long) x.undo());
-            network(x, all);
-        }
-        return all;
-    }
-
-    private static void network(ChordWords x, List<Long> all) {
-        all.add((long) x.many(0));
-        all.add((long) x.many(1));
-        all.add((long) x.many(3));
-        for (int p = 0; p < 7; p++) {
-            all.add((long) x.near(p));
         }
     }
 
@@ -222,11 +193,7 @@ public final class RefusalTest {
         CHECK.due("the tape is empty then", x, x.load(1), -1, 1);
         CHECK.due("fault(0)", x.fault(0), 2);
         CHECK.due("fault(1)", x.fault(1), 0);
-        List<Long> is = new ArrayList<>();
-        List<Long> was = new ArrayList<>();
-        network(x, is);
-        network(make(FIRST), was);
-        CHECK.due("the network stays", is.equals(was), true);
+        CHECK.due("the network stays", State.network(x).equals(State.network(make(FIRST))), true);
         CHECK.due("the image stays", x.like(0), 0);
     }
 }
