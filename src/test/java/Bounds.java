@@ -92,7 +92,8 @@ final class Bounds {
     /** NONE or false, the STATUS, and nothing else has changed. */
     void refused(String sentence, int status, Supplier<ChordWords> made, ToLongFunction<ChordWords> call) {
         ChordWords x = made.get();
-        due(sentence + ": STATUS ahead", x.many(0) < 0 ? 1 : x.status(), 0);
+        x.many(0);
+        due(sentence + ": STATUS ahead", x.status(), 0);
         due(sentence, x, call.applyAsLong(x), ChordWords.NONE, status);
         same(sentence, State.whole(x), State.whole(made.get()));
     }
